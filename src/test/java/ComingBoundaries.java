@@ -161,6 +161,16 @@ final class ComingBoundaries extends BoundaryNumbers {
         Boundary.changeNothing(States::four, NONE, "longest(1, -2)", "longest(5, 5)", "longest(5, MIN)", "longest(5, MAX)");
     }
 
+    static void longest_theLetterOfItsIthLead() {
+        Boundary.sentence("Promise 17", "the letter of its i-th LEAD");
+        // p s p s, as s p s p has s first
+        new Tower().method("x").due("longest(4, -1)", 4).due("longest(4, 0)", 0).due("longest(4, 1)", 2).due("longest(4, 2)", 0)
+            .due("longest(4, 3)", 2).due("longest(4, 4)", NONE);
+        // the last of all TOUCHES of five LEADS: p is ROUNDS at once, b is FALSE, s hunts
+        Tower last = new Tower().bells(5).method("5.5").bob("12345").single("1").due("longest(1, -1)", 2).due("longest(4, 0)", 0);
+        last.due("longest(5, -1)", 10).dueOfEach(2, "longest(5, 0)", "longest(5, 1)", "longest(5, 2)", "longest(5, 3)", "longest(5, 4)");
+    }
+
     static void longest_theLongestMethods() {
         Boundary.sentence("Promise 17", "how many CHANGES (i = -1)");
         // by p ROUNDS come after two CHANGES already

@@ -44,8 +44,8 @@ final class ImageBoundaries extends BoundaryNumbers {
         Boundary.sentence("Promise 19", "They are as they were when they were kept; the IMAGE, THE PAD stay: 1.");
         Tower x = new Tower().bells(8).method(States.FORTY_CHANGES_OF_EIGHT).bob("18").single("1238").touch(States.FORTY_LEADS).image(1);
         List<Integer> kept = x.sight();
-        x.bells(4).method("x").touch("p").bob("12").single("12");
-        x.due("reached(7)", 4).due("falseHead(-1)", 1).due("longest(5, -1)", 4).due("by(1243, 0)", 1).restore(1);
+        x.bells(4).method("12").touch("p").bob("x").single("12");
+        x.due("reached(7)", 4).due("falseHead(-1)", 1).due("longest(5, -1)", 4).due("by(1243, 0)", 0).restore(1);
         Boundary.holds(kept.equals(x.sight()), "it is not as it was kept, " + kept);
         x.bells(5).restore(1).due("told(0)", 1600).due("change(-1)", 258).due("change(-2)", 270).due("count(4)", 2);
     }
@@ -59,8 +59,8 @@ final class ImageBoundaries extends BoundaryNumbers {
 
     static void restore_theImageStays_whateverComesBehind() {
         Boundary.sentence("Promise 19", "the IMAGE, THE PAD stay");
-        Tower x = new Tower().method("x14").touch("pb").image(0).restore(0).method("x").bob("x").single("x").touch("s").restore(0);
-        x.due("count(1)", 2).due("count(2)", 2).due("change(1)", 18).due("change(-1)", 18).due("change(-2)", 30).due("row(4)", 432156);
+        Tower x = new Tower().method("x14").touch("pb").image(0).restore(0).method("16.36.12").bob("x").single("x").touch("s").restore(0);
+        x.due("count(1)", 2).due("count(2)", 2).due("change(0)", 0).due("change(1)", 18).due("change(-1)", 18).due("change(-2)", 30).due("row(4)", 432156);
         x.bells(4).restore(0).due("count(0)", 6).due("count(1)", 2).due("count(4)", 1);
     }
 

@@ -146,4 +146,43 @@ final class TermsBoundaries extends BoundaryNumbers {
         Tower x = new Tower().pad("x").due("fault(0)", NONE).bells(5).due("fault(0)", 0).bells(8).due("fault(0)", NONE);
         x.onlyPad("18").due("fault(1)", NONE).bells(6).due("fault(1)", 1).bells(7).due("fault(1)", 1);
     }
+
+    /** Whatever was asked before, behind a change each question answers as on an object of which nothing was asked. */
+    static void told_asThingsAreThen_whateverWasAskedBefore() {
+        Boundary.sentence("Terms", THEN);
+        for (Change change : Change.values()) {
+            for (String question : Tower.sightCalls()) {
+                Tower asked = change.ready();
+                asked.sight();
+                asked.ask(question);
+                change.make(asked);
+                Tower fresh = change.ready();
+                change.make(fresh);
+                asked.due(question, fresh.ask(question));
+            }
+        }
+    }
+
+    private enum Change {
+        BELLS, BELLS_AND_METHOD, METHOD, BOB, SINGLE, TOUCH, RESTORE, WIPE, SAY;
+
+        Tower ready() {
+            return new Tower().bells(4).method("12.14").bob("34").single("12").touch("ps").image(1)
+                .bells(5).method("3.5.1").touch("pbsb").pad("pb");
+        }
+
+        void make(Tower x) {
+            switch (this) {
+                case BELLS: x.bells(6); break;
+                case BELLS_AND_METHOD: x.bells(4).method("x14").touch("sb"); break;
+                case METHOD: x.method("5.1.123"); break;
+                case BOB: x.bob("5"); break;
+                case SINGLE: x.single("123"); break;
+                case TOUCH: x.touch("sspb"); break;
+                case RESTORE: x.restore(1); break;
+                case WIPE: x.due("wipe()", 2); break;
+                default: x.pad("3"); break;
+            }
+        }
+    }
 }

@@ -93,18 +93,21 @@ final class Tower {
     /** What calls that change nothing answer. */
     List<Integer> sight() {
         List<Integer> seen = new ArrayList<>();
-        asked(seen, "count(0)", "count(1)", "count(2)", "count(3)", "count(4)", "fault(0)", "fault(1)", "fault(2)");
-        asked(seen, "change(-2)", "change(-1)", "change(0)", "change(1)", "change(2)", "change(39)");
-        asked(seen, "told(0)", "told(1)", "told(2)", "told(3)", "told(4)", "told(5)", "told(6)");
-        asked(seen, "row(0)", "row(1)", "row(2)", "row(7)", "row(20)", "row(1600)");
-        for (int bell = 1; bell <= 4; bell++) {
-            asked(seen, "bell(" + bell + ", 5, 0)", "bell(" + bell + ", 0, 1)", "bell(" + bell + ", 0, 2)", "bell(" + bell + ", 0, 3)");
-        }
-        asked(seen, "head(0, 0)", "head(1, 0)", "head(2, 0)", "head(0, 1)", "head(1, 1)", "head(2, 1)");
-        asked(seen, "falseHead(-1)", "falseHead(0)", "falseHead(1)", "reached(1)", "reached(3)", "reached(7)");
-        asked(seen, "by(1324, -1)", "by(13245, -1)", "by(132456, -1)", "by(1324567, -1)", "by(13245678, 0)");
-        asked(seen, "longest(1, -1)", "longest(5, -1)", "longest(5, 0)", "longest(5, 4)");
+        asked(seen, sightCalls());
         return seen;
+    }
+
+    static String[] sightCalls() {
+        String calls = "count(0);count(1);count(2);count(3);count(4);fault(0);fault(1);fault(2)"
+            + ";change(-2);change(-1);change(0);change(1);change(2);change(39);told(0);told(1);told(2);told(3);told(4);told(5);told(6)"
+            + ";row(0);row(1);row(2);row(7);row(20);row(1600)";
+        for (int bell = 1; bell <= 4; bell++) {
+            calls += ";bell(B, 5, 0);bell(B, 0, 1);bell(B, 0, 2);bell(B, 0, 3)".replace("B", "" + bell);
+        }
+        calls += ";head(0, 0);head(1, 0);head(2, 0);head(0, 1);head(1, 1);head(2, 1);falseHead(-1);falseHead(0);falseHead(1)"
+            + ";reached(1);reached(3);reached(7);by(1324, -1);by(13245, -1);by(132456, -1);by(1324567, -1);by(13245678, 0)"
+            + ";longest(1, -1);longest(5, -1);longest(5, 0);longest(5, 4)";
+        return calls.split(";");
     }
 
     /** What sight() can't see: the signs of THE PAD and what the IMAGES keep. All of it changes things. */
