@@ -15,6 +15,7 @@ final class Boundary {
 
     private static final String[] NAMES = {"", "UNKNOWN", "OUTSIDE", "STATE", "FULL", "", "NONE", "FAULT"};
     private static final Set<String> SEEN = new TreeSet<>();
+    private static final Set<String> EXTREMES = new TreeSet<>();
     private static String document = "";
     private static String test = "";
     private static String words = "";
@@ -80,6 +81,25 @@ final class Boundary {
     static void saw(String call, int answer) {
         if (answer < 0) {
             SEEN.add(call + " " + (answer > -NAMES.length ? NAMES[-answer] : "") + " " + answer);
+        }
+    }
+
+    static void sawNumber(String call, int place, int number) {
+        if (number == Integer.MIN_VALUE || number == Integer.MAX_VALUE) {
+            EXTREMES.add(call + " " + place + " " + number);
+        }
+    }
+
+    /** Each number of each call was the smallest int once, and the largest. */
+    static void extremesWereAsked() {
+        test = "extremesWereAsked";
+        words = "";
+        for (Method m : BellTouches.class.getDeclaredMethods()) {
+            for (int i = 0; Modifier.isPublic(m.getModifiers()) && i < m.getParameterCount(); i++) {
+                String number = m.getName() + " " + i + " ";
+                holds(EXTREMES.contains(number + Integer.MIN_VALUE), number + "was never the smallest int");
+                holds(EXTREMES.contains(number + Integer.MAX_VALUE), number + "was never the largest int");
+            }
         }
     }
 

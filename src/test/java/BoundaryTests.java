@@ -9,6 +9,7 @@ public final class BoundaryTests {
         Boundary.runAll(ImageBoundaries.class);
         Boundary.refusalsAreThoseTold("bells", "say", "wipe", "fault", "method", "call", "touch", "change", "row", "told", "bell", "head",
             "falseHead", "reached", "by", "longest", "image", "restore", "count");
+        Boundary.extremesWereAsked();
         int wrong = Boundary.wrongOnes();
         System.out.println(wrong == 0 ? "all " + Boundary.testsRun() + " sentences hold" : wrong + " answers are wrong");
         if (wrong != 0) {

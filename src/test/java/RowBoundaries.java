@@ -1,3 +1,5 @@
+import java.util.TreeSet;
+
 /** Part 2 of "Terms" and promises 10 to 14: the ROWS of a TOUCH, HEADS and FALSE HEADS. */
 final class RowBoundaries extends BoundaryNumbers {
     private static final String BOB_DOUBLES = "5.1.5.1.5,125";
@@ -243,18 +245,13 @@ final class RowBoundaries extends BoundaryNumbers {
         new Tower().bells(4).method("14.12.14").due("falseHead(4)", 1432).method("14").due("falseHead(0)", 1234).due("falseHead(1)", NONE);
     }
 
-    static void falseHead_manyAreRising() {
+    static void falseHead_theLesserNumbersFirst_ofLongMethods() {
         Boundary.sentence("Promise 14", "the lesser NUMBERS first");
-        Tower x = new Tower().bells(8).method("14.16.1238.18.1678.14.123458,1236.18");
-        int many = x.ask("falseHead(-1)");
-        Boundary.holds(many > 60 && many <= 401, many + " FALSE HEADS");
-        int before = 0;
-        for (int i = 0; i < many && x.callsDone() < 510; i++) {
-            int number = x.ask("falseHead(" + i + ")");
-            Boundary.holds(number > before && number / 10000000 == 1, number + " behind " + before);
-            before = number;
-        }
-        x.due("falseHead(" + many + ")", NONE);
+        falseHeadsAreByTheirRows(8, States.FORTY_CHANGES_OF_EIGHT);
+        falseHeadsAreByTheirRows(8, "14.16.1238.18.1678.14.123458,1236.18");
+        falseHeadsAreByTheirRows(8, "14.18.16.14.18.16.14.38.16.14.18.16.58");
+        falseHeadsAreByTheirRows(7, "1.3.1.127.1.147.1.3.1.127.1.3.147.1.3,1");
+        falseHeadsAreByTheirRows(6, States.FORTY_X);
     }
 
     static void falseHead_STATE_thereIsNoMethod() {
@@ -278,6 +275,39 @@ final class RowBoundaries extends BoundaryNumbers {
             x.due("falseHead(" + i + ")", want[i]);
         }
         x.due("falseHead(" + want.length + ")", NONE);
+    }
+
+    /** By trying: which ROW makes one PLAIN ROW of another one. */
+    private static void falseHeadsAreByTheirRows(int bells, String method) {
+        Tower x = new Tower().bells(bells).method(method).touch("p");
+        int changes = x.ask("told(0)");
+        String[] plain = new String[changes];
+        for (int i = 0; i < changes; i++) {
+            plain[i] = "" + x.ask("row(" + i + ")");
+        }
+        TreeSet<Integer> heads = new TreeSet<>();
+        for (String one : plain) {
+            for (String other : plain) {
+                char[] head = new char[bells];
+                for (int place = 0; place < bells; place++) {
+                    head[one.charAt(place) - '1'] = other.charAt(place);
+                }
+                if (head[0] == '1') {
+                    heads.add(Integer.parseInt(new String(head)));
+                }
+            }
+        }
+        x.due("falseHead(-1)", heads.size());
+        int i = 0;
+        for (int head : heads) {
+            // one object is not asked often enough for the longest lists
+            if (x.callsDone() > 500) {
+                x = new Tower().bells(bells).method(method);
+            }
+            x.due("falseHead(" + i + ")", head);
+            i++;
+        }
+        x.due("falseHead(" + heads.size() + ")", NONE);
     }
 
     /** BELL 1 is at PLACE 1 in all of 1520 ROWS. */

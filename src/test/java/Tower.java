@@ -16,9 +16,13 @@ final class Tower {
         }
         int open = call.indexOf('(');
         String name = call.substring(0, open);
-        int answer = answer(name, numbers(call.substring(open + 1, call.length() - 1)));
+        int[] numbers = numbers(call.substring(open + 1, call.length() - 1));
+        int answer = answer(name, numbers);
         story.append(call).append(' ').append(answer).append("; ");
         Boundary.saw(name, answer);
+        for (int i = 0; i < numbers.length; i++) {
+            Boundary.sawNumber(name, i, numbers[i]);
+        }
         return answer;
     }
 
