@@ -38,6 +38,8 @@ final class ComingBoundaries extends BoundaryNumbers {
     static void longest_of1ToNLeads_mostChanges_theFirst() {
         Boundary.sentence("Terms", "LONGEST of n: of all TOUCHES of 1 to n LEADS that are TRUE and COME ROUND at their last ROW those with most CHANGES;"
             + " of such the first (likewise).");
+        // s has its last ROW twice; p is a ring of five BELLS, b one of four, so b comes twice or four times: b b = p p and p = b b are not,
+        // p b p b ends with 13542, b p b p likewise elsewhere; of four LEADS b b b b alone comes round, of five p p p p p, the first of all
         Tower x = new Tower().bells(5).method("5.1");
         x.dueOfEach(NONE, "longest(1, -1)", "longest(2, -1)", "longest(3, -1)").due("longest(4, -1)", 8).due("longest(5, -1)", 10);
         x.dueOfEach(1, "longest(4, 0)", "longest(4, 1)", "longest(4, 2)", "longest(4, 3)").due("longest(4, 4)", NONE);
@@ -49,10 +51,11 @@ final class ComingBoundaries extends BoundaryNumbers {
 
     static void longest_true_andRoundAtItsLastRow() {
         Boundary.sentence("Terms", "that are TRUE and COME ROUND at their last ROW");
-        // p comes round, but p p is FALSE; s s comes round; b b b b hunts over four PLACES
+        // p comes round, but behind another LEAD it has that one's last ROW again; of b and s the first four PLACES are turned (b) and
+        // turned about (s): of two LEADS s s comes round, of three and five none, for turns are odd in number then, of four b b b b first
         new Tower().method("xx").due("longest(1, -1)", 2).due("longest(1, 0)", 0).due("longest(2, -1)", 4).due("longest(2, 1)", 2)
             .due("longest(3, -1)", 4).due("longest(4, -1)", 8).due("longest(5, -1)", 8).due("longest(5, 0)", 1).due("longest(5, 3)", 1).due("longest(5, 4)", NONE);
-        // ROW 3 is ROW 1 by whatever letter, or ROUNDS come inside the LEAD and again at its end
+        // ROW 2 is ROUNDS by whatever letter, so that the last ROW, if it is ROUNDS, is FALSE
         new Tower().method("xxx").dueOfEach(NONE, "longest(1, -1)", "longest(2, -1)", "longest(5, -1)", "longest(5, 0)");
         new Tower().method("xxxx").dueOfEach(NONE, "longest(1, -1)", "longest(5, -1)");
         new Tower().method("123456").due("longest(1, -1)", 1).due("longest(1, 0)", 0).due("longest(1, 1)", NONE);
@@ -148,7 +151,7 @@ final class ComingBoundaries extends BoundaryNumbers {
 
     static void longest_OUTSIDE_n1To5() {
         Boundary.sentence("Promise 17", "LONGEST of n, 1 to 5: how many CHANGES (i = -1), the letter of its i-th LEAD", "OUTSIDE: n;");
-        // the longest is p s p s
+        // each CHANGE changes 5 and 6, so there are two LEADS or four: the longest is p s p s
         new Tower().method("x").due("longest(0, -1)", OUTSIDE).due("longest(1, -1)", NONE).due("longest(5, -1)", 4).due("longest(6, -1)", OUTSIDE);
         Boundary.changeNothingAnywhere(OUTSIDE, "longest(MIN, -1)", "longest(-1, -1)", "longest(0, 0)", "longest(6, -2)", "longest(MAX, MAX)");
     }
@@ -163,7 +166,7 @@ final class ComingBoundaries extends BoundaryNumbers {
 
     static void longest_theLetterOfItsIthLead() {
         Boundary.sentence("Promise 17", "the letter of its i-th LEAD");
-        // p s p s, as s p s p has s first
+        // p s p s: 214365 214356 123465 123456; p p is ROUNDS too early, and p b wants b p behind it, of which b has ROW 1 again
         new Tower().method("x").due("longest(4, -1)", 4).due("longest(4, 0)", 0).due("longest(4, 1)", 2).due("longest(4, 2)", 0)
             .due("longest(4, 3)", 2).due("longest(4, 4)", NONE);
         // the last of all TOUCHES of five LEADS: p is ROUNDS at once, b is FALSE, s hunts
@@ -173,9 +176,15 @@ final class ComingBoundaries extends BoundaryNumbers {
 
     static void longest_theLongestMethods() {
         Boundary.sentence("Promise 17", "how many CHANGES (i = -1)");
-        // by p ROUNDS come after two CHANGES already
+        // by whatever letter ROUNDS come after two CHANGES already, and again at the end
         new Tower().bells(8).method(States.FORTY_X).dueOfEach(NONE, "longest(1, -1)", "longest(5, -1)");
-        new Tower().method("x16x16x16,12").due("longest(4, -1)", 36).due("longest(5, -1)", 60).due("longest(5, 4)", 0).due("longest(5, 5)", NONE);
+        // five LEADS of 40 CHANGES, all 200 ROWS new
+        new Tower().bells(8).method(States.BOBS_AND_SINGLES_OF_EIGHT).due("longest(5, -1)", 200).dueOfEach(1, "longest(5, 0)", "longest(5, 1)", "longest(5, 2)")
+            .dueOfEach(2, "longest(5, 3)", "longest(5, 4)").due("longest(5, 5)", NONE).touch("bbbss").due("told(1)", 1).due("told(4)", 200);
+        new Tower().bells(8).method(States.FIVE_PLAIN_LEADS_OF_EIGHT).due("longest(5, -1)", 200).due("longest(5, 0)", 0).due("longest(5, 4)", 0)
+            .touch("ppppp").due("told(1)", 1).due("told(4)", 200);
+        // 135264, 123564: p is a ring of five BELLS, b one of three; WayMeetings rings all TOUCHES of up to five LEADS
+        new Tower().method("x16x16x16,12").due("longest(3, 0)", 1).due("longest(4, 2)", 1).due("longest(4, -1)", 36).due("longest(5, -1)", 60).due("longest(5, 4)", 0).due("longest(5, 5)", NONE);
         new Tower().method("x16x16x16,16").due("longest(1, -1)", 12).due("longest(1, 0)", 0);
     }
 

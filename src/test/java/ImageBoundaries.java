@@ -59,6 +59,7 @@ final class ImageBoundaries extends BoundaryNumbers {
 
     static void restore_theImageStays_whateverComesBehind() {
         Boundary.sentence("Promise 19", "the IMAGE, THE PAD stay");
+        // 214365 241356 423165 432156
         Tower x = new Tower().method("x14").touch("pb").image(0).restore(0).method("16.36.12").bob("x").single("x").touch("s").restore(0);
         x.due("count(1)", 2).due("count(2)", 2).due("change(0)", 0).due("change(1)", 18).due("change(-1)", 18).due("change(-2)", 30).due("row(4)", 432156);
         x.bells(4).restore(0).due("count(0)", 6).due("count(1)", 2).due("count(4)", 1);

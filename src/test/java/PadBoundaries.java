@@ -222,6 +222,7 @@ final class PadBoundaries extends BoundaryNumbers {
     static void lead_bobOrSingleInPlaceOfTheLastOne() {
         Boundary.sentence("Terms", "A LEAD has all CHANGES of the METHOD, by b BOB in place of the last one, by s SINGLE in place of it.");
         new Tower().bells(4).method("x").touch("p").due("row(1)", 2143).touch("b").due("row(1)", 1324).touch("s").due("row(1)", 1234);
+        // by x14: 2143 2413; of 2431 come 4213 4123, of 4213 come 2431 2341
         Tower x = new Tower().bells(4).method("x14.12");
         x.touch("p").due("row(2)", 2413).due("row(3)", 2431).touch("b").due("row(2)", 2413).due("row(3)", 2143)
             .touch("s").due("row(2)", 2413).due("row(3)", 2413);

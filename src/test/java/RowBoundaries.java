@@ -1,4 +1,7 @@
+import java.util.ArrayList;
+import java.util.List;
 import java.util.TreeSet;
+import java.util.function.Supplier;
 
 /** Part 2 of "Terms" and promises 10 to 14: the ROWS of a TOUCH, HEADS and FALSE HEADS. */
 final class RowBoundaries extends BoundaryNumbers {
@@ -128,6 +131,14 @@ final class RowBoundaries extends BoundaryNumbers {
         Tower x = new Tower().bells(8).method("x18x18x18x18,12");
         x.touch("ppppppp").due("told(0)", 112).due("told(1)", 1).due("told(2)", 0).due("told(3)", NONE).due("told(4)", 112).due("told(6)", 7);
         x.touch("pppppppp").due("told(0)", 128).due("told(1)", 0).due("told(2)", 16).due("told(3)", 113).due("told(4)", 112).due("told(6)", 8);
+    }
+
+    static void told_theLongestTouches_asTheyAreRungHere() {
+        Boundary.sentence("Terms", "ROW 0 is ROUNDS, each other one comes of the one ahead by the next CHANGE.");
+        rungHere(States.TRUE_OF_EIGHT, States.TRUE_LEADS, 1);
+        rungHere(States.FORTY_CHANGES_OF_EIGHT, States.FORTY_LEADS, 0);
+        rungHere(States.TRUE_OF_EIGHT, "sp".repeat(20), 0);
+        rungHere(States.BOBS_AND_SINGLES_OF_EIGHT, "bbbss".repeat(8), 0);
     }
 
     // ---- promise 12
@@ -275,6 +286,59 @@ final class RowBoundaries extends BoundaryNumbers {
             x.due("falseHead(" + i + ")", want[i]);
         }
         x.due("falseHead(" + want.length + ")", NONE);
+    }
+
+    /** All 1600 ROWS of eight BELLS, by the CHANGES that are told, and what is told of them. */
+    private static void rungHere(String method, String touch, int isTrue) {
+        Supplier<Tower> ready = () -> new Tower().bells(8).method(method).touch(touch);
+        Tower x = ready.get();
+        List<String> rows = ring(x, touch);
+        int falseRows = 0;
+        int firstFalse = NONE;
+        int liked = 0;
+        for (int i = 1; i < rows.size(); i++) {
+            boolean isFalse = rows.subList(1, i).contains(rows.get(i));
+            falseRows += isFalse ? 1 : 0;
+            firstFalse = isFalse && firstFalse == NONE ? i : firstFalse;
+            liked += "12345678 87654321".contains(rows.get(i).substring(5)) ? 1 : 0;
+        }
+        int round = rows.subList(1, rows.size()).indexOf(rows.get(0));
+        x.due("told(0)", rows.size() - 1).due("told(1)", isTrue).due("told(1)", falseRows == 0 ? 1 : 0).due("told(2)", falseRows).due("told(3)", firstFalse)
+            .due("told(4)", round < 0 ? NONE : round + 1).due("told(5)", liked).due("told(6)", touch.length());
+        for (int i = 0; i < rows.size(); i++) {
+            x = x.callsDone() == 512 ? ready.get() : x;
+            x.due("row(" + i + ")", Integer.parseInt(rows.get(i)));
+        }
+    }
+
+    private static List<String> ring(Tower x, String touch) {
+        int[] sets = new int[x.ask("count(1)")];
+        for (int i = 0; i < sets.length; i++) {
+            sets[i] = x.ask("change(" + i + ")");
+        }
+        int plain = sets[sets.length - 1];
+        int bob = x.ask("change(-1)");
+        int single = x.ask("change(-2)");
+        List<String> rows = new ArrayList<>(List.of("12345678"));
+        for (char letter : touch.toCharArray()) {
+            sets[sets.length - 1] = letter == 'p' ? plain : letter == 'b' ? bob : single;
+            for (int stays : sets) {
+                rows.add(changed(rows.get(rows.size() - 1), stays));
+            }
+        }
+        return rows;
+    }
+
+    private static String changed(String row, int stays) {
+        StringBuilder made = new StringBuilder(row);
+        for (int place = 1; place <= row.length(); place++) {
+            if ((stays >> place & 1) == 0) {
+                made.setCharAt(place - 1, row.charAt(place));
+                made.setCharAt(place, row.charAt(place - 1));
+                place++;
+            }
+        }
+        return made.toString();
     }
 
     /** By trying: which ROW makes one PLAIN ROW of another one. */

@@ -12,20 +12,20 @@ import java.util.regex.Pattern;
 
 /** The class's face and what LANGUAGE.md asks of the source, as far as a plain look can tell. */
 public final class RulesTest {
-    private static final String FACE = "BellTouches()|bells(int)|say(int)|wipe()|fault(int)|method()|call(int)|touch()"
-        + "|change(int)|row(int)|told(int)|bell(int,int,int)|head(int,int)|falseHead(int)|reached(int)|by(int,int)"
-        + "|longest(int,int)|image(int)|restore(int)|count(int)|UNKNOWN|OUTSIDE|STATE|FULL|NONE|FAULT";
+    private static final int FACE_SIZE = 20 + 6;
     private static final String RULED_OUT = "throw|throws|try|catch|finally|synchronized|assert|import|package|double|float"
         + "|Object|Thread|Random|->|::|Exact";
+    private static final Set<String> LIBRARY = Set.of("Math.min", "Math.max", "Integer.bitCount", "System.arraycopy");
     private static final int MOST_LINES_OF_A_METHOD = 60;
     private static final int MOST_BYTES_OF_A_RUN = 4_000_000;
     private static int wrong = 0;
 
     public static void main(String[] args) throws Exception {
-        faceIsAsTold();
+        faceIsAsTold(faceOfTheDocument());
         noPrivateMethodHasAPublicName();
         String source = Files.readString(Path.of("src/main/java/BellTouches.java"));
         nothingRuledOutStands(source);
+        theLibraryIsSmall(source);
         methodsAreShort(source);
         aDearRunIsSmall();
         System.out.println(wrong == 0 ? "the rules are kept" : wrong + " rules are broken");
@@ -41,8 +41,25 @@ public final class RulesTest {
         }
     }
 
-    private static void faceIsAsTold() {
-        Set<String> due = new TreeSet<>(Set.of(FACE.split("\\|")));
+    /** The constants with their values, the constructor and the methods, as the document writes them. */
+    private static Set<String> faceOfTheDocument() throws Exception {
+        String document = Files.readString(Path.of("../shared/DOC.md"));
+        int from = document.indexOf("```java", document.indexOf("## The public face"));
+        String face = document.substring(from, document.indexOf("\n```", from));
+        Set<String> due = new TreeSet<>();
+        Matcher constants = Pattern.compile("(\\w+ = -?\\d+)").matcher(face);
+        while (constants.find()) {
+            due.add(constants.group(1));
+        }
+        Matcher methods = Pattern.compile("public (?:int )?(\\w+\\([^)]*\\));").matcher(face);
+        while (methods.find()) {
+            due.add(methods.group(1).replaceAll("int \\w+", "int").replace(" ", ""));
+        }
+        check(due.size() == FACE_SIZE, "the document's face was read as " + due);
+        return due;
+    }
+
+    private static void faceIsAsTold(Set<String> due) throws Exception {
         Set<String> seen = new TreeSet<>();
         for (Constructor<?> c : BellTouches.class.getDeclaredConstructors()) {
             addUnlessPrivate(seen, c.getModifiers(), "BellTouches" + parameters(c.getParameterTypes()));
@@ -52,7 +69,8 @@ public final class RulesTest {
             check(Modifier.isPrivate(m.getModifiers()) || m.getReturnType() == int.class, m + " answers no int");
         }
         for (Field f : BellTouches.class.getDeclaredFields()) {
-            addUnlessPrivate(seen, f.getModifiers(), f.getName());
+            boolean constant = Modifier.isPublic(f.getModifiers()) && Modifier.isStatic(f.getModifiers()) && f.getType() == int.class;
+            addUnlessPrivate(seen, f.getModifiers(), constant ? f.getName() + " = " + f.getInt(null) : f.getName());
             check(!Modifier.isStatic(f.getModifiers()) || Modifier.isFinal(f.getModifiers()), f + " isn't final");
         }
         check(seen.equals(due), "the face is " + seen + ", due is " + due);
@@ -114,6 +132,20 @@ public final class RulesTest {
         for (int i = 0; i < source.length(); i++) {
             check(source.charAt(i) == '\n' || source.charAt(i) >= 32 && source.charAt(i) < 127, "a strange sign at " + i);
         }
+    }
+
+    /** Of the library only what LANGUAGE.md lists, and the class's own names. */
+    private static void theLibraryIsSmall(String source) {
+        String code = source.replaceAll("(?s)/\\*.*?\\*/", "").replaceAll("//[^\n]*", "");
+        Set<String> own = new TreeSet<>();
+        for (Class<?> inside : BellTouches.class.getDeclaredClasses()) {
+            own.add(inside.getSimpleName());
+        }
+        Matcher used = Pattern.compile("\\b([A-Z][a-z]\\w*)\\.(\\w+)").matcher(code);
+        while (used.find()) {
+            check(own.contains(used.group(1)) || LIBRARY.contains(used.group()), used.group() + " is not looked at here");
+        }
+        check(!code.contains(" static {") && !code.contains("\""), "a static block or a text");
     }
 
     private static void methodsAreShort(String source) {

@@ -3,6 +3,13 @@ final class States {
     static final String FORTY_X = "x".repeat(40);
     static final String FORTY_CHANGES_OF_EIGHT = "x14x58x16x38x14x58x16x38x14x58,12";
     static final String FORTY_LEADS = "pbspsbppbs".repeat(4);
+    /** 40 CHANGES, of which the LEADS b b b s s are TRUE and come round. */
+    static final String BOBS_AND_SINGLES_OF_EIGHT = "x34x36x78x58x14x3456x1458x58x1458x18,12";
+    /** Likewise p p p p p. */
+    static final String FIVE_PLAIN_LEADS_OF_EIGHT = "x58x3456x56x58x58x56x18x1458x16x14,18";
+    /** 40 CHANGES, of which these 40 LEADS are TRUE: 1600 ROWS, none twice. */
+    static final String TRUE_OF_EIGHT = "x16x58x14x58x36x38x14x58x36x18,12";
+    static final String TRUE_LEADS = "spbppbbsbpssbspbsspbpssppbbspbbssbsbpppp";
 
     private States() {
     }

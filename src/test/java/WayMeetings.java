@@ -7,7 +7,12 @@ final class WayMeetings extends BoundaryNumbers {
     /** MANY, METHOD, BOB, SINGLE; an empty text: as at first. */
     private static final String[][] SETTINGS = {
         {"4", "x14x14,12", "", ""}, {"4", "x14x14,12", "34", ""}, {"4", "x", "", ""}, {"4", "12", "34", "x"}, {"4", "1234", "", ""},
-        {"4", "x14", "12", "34"}, {"5", "5.1.5.1.5,125", "", ""}, {"5", "5.1", "", ""}, {"5", "5.1", "3", "123"}, {"5", "3.1.5", "145", "5"}};
+        {"4", "x14", "12", "34"}, {"5", "5.1.5.1.5,125", "", ""}, {"5", "5.1", "", ""}, {"5", "5.1", "3", "123"}, {"5", "3.1.5", "145", "5"},
+        {"6", "x16x16x16,12", "", ""}, {"6", "x", "", ""}, {"6", "xx", "", ""}};
+    /** METHODS of 40 CHANGES, of which five LEADS are TRUE and come round; of eight BELLS not all ROWS are tried. */
+    private static final String[][] LONG_SETTINGS = {
+        {"8", States.BOBS_AND_SINGLES_OF_EIGHT, "", ""}, {"8", States.FIVE_PLAIN_LEADS_OF_EIGHT, "", ""},
+        {"8", States.FORTY_CHANGES_OF_EIGHT, "", ""}, {"8", States.TRUE_OF_EIGHT, "18", "123458"}};
 
     /** Each ROW's BY as a TOUCH ends with it, no TOUCH ahead of it does, and as many ROWS come as are REACHED. */
     static void by_isTheFirstOfTheShortestTouches() {
@@ -34,7 +39,7 @@ final class WayMeetings extends BoundaryNumbers {
     /** Of all TOUCHES of up to n LEADS, each rung, the one that is told. */
     static void longest_isTheFirstOfTheLongestTouches() {
         Boundary.sentence("Terms", "LONGEST of n: of all TOUCHES of 1 to n LEADS that are TRUE and COME ROUND at their last ROW those with most CHANGES");
-        for (String[] setting : SETTINGS) {
+        for (String[] setting : allSettings()) {
             String[] best = longestByRinging(setting);
             Tower x = ready(setting);
             int changes = x.ask("count(1)");
@@ -48,7 +53,7 @@ final class WayMeetings extends BoundaryNumbers {
 
     static void head_isTheRowAtTheEndOfOneLead() {
         Boundary.sentence("Terms", "The HEAD of a letter: the ROW that a LEAD of it makes of ROUNDS.");
-        for (String[] setting : SETTINGS) {
+        for (String[] setting : allSettings()) {
             for (int letter = 0; letter < 3; letter++) {
                 Tower x = ready(setting);
                 int changes = x.ask("count(1)");
@@ -116,6 +121,12 @@ final class WayMeetings extends BoundaryNumbers {
     }
 
     // ---- what the tests above share
+
+    private static List<String[]> allSettings() {
+        List<String[]> all = new ArrayList<>(List.of(SETTINGS));
+        all.addAll(List.of(LONG_SETTINGS));
+        return all;
+    }
 
     private static Tower ready(String[] setting) {
         Tower x = new Tower().bells(Integer.parseInt(setting[0]));
